@@ -191,6 +191,9 @@ public final class LayoutTest {
         CHECK.same("a way into a section entered before is no route", loop.routes(), 0);
         RouteInterlocking back = Yards.with(new int[] {1, 2, 3, 4, 5, 1}, 1);
         CHECK.same("nor one back to the signal's end", back.routes(), 0);
+        RouteInterlocking balloon = Yards.with(new int[] {1, 2, 3, 4, 5, 6, 7, 3}, 1, 2);
+        CHECK.same("nor one round a loop, back to a signal in a section entered before", balloon.routes(), 1);
+        CHECK.same("but the one that leaves it", balloon.hops(2, 0), 1);
     }
 
     private static void routesAreOrdered() {

@@ -88,6 +88,12 @@ public final class SettingTest {
         CHECK.same("the point stays", y.position(1), 0);
         y.cancel(0);
         CHECK.same("the need is released", y.blocked(1), 0);
+        RouteInterlocking z = Yards.with(new int[] {2, 1, 4, 1}, 1);
+        z.put(0, 0);
+        CHECK.same("which end of a joint was named first does not matter", z.blocked(1), 4);
+        z.turn(0, 0);
+        z.set(0);
+        CHECK.same("nor for a need that holds", z.blocked(1), 4);
     }
 
     /** Two tracks meet at end 4, and a third one at end 6: all three routes go on to section 5. */
