@@ -1,6 +1,7 @@
 /** Counts the answers that are not as due, tells each, and ends the program with 1 if there was one. */
 final class Check {
     private final String name;
+    private String sentence = "";
     private int wrong = 0;
     private int seen = 0;
 
@@ -8,11 +9,16 @@ final class Check {
         this.name = name;
     }
 
+    /** The answers that follow are due by this sentence of the document. */
+    void under(String words) {
+        sentence = "[" + words + "] ";
+    }
+
     void same(String what, long got, long due) {
         seen++;
         if (got != due) {
             wrong++;
-            System.out.println(name + ": " + what + " answered " + got + ", due is " + due);
+            System.out.println(name + ": " + sentence + what + " answered " + got + ", due is " + due);
         }
     }
 

@@ -78,8 +78,7 @@ public final class GraphTest {
         CHECK.yes("conflict(0, 2)", x.conflict(0, 2));
         CHECK.no("conflict(1, 2)", x.conflict(1, 2));
         CHECK.same("the two others", x.largest(), 2);
-        RouteInterlocking wide = Yards.with(
-            new int[] {1, 4, 1, 6, 3, 4, 3, 6, 5, 8, 5, 10, 7, 8, 7, 10, 9, 12, 9, 14, 11, 12, 11, 14}, 1, 3);
+        RouteInterlocking wide = Yards.with(Yards.mesh(), 1, 3);
         CHECK.same("sixteen routes, two side by side", wide.largest(), 2);
     }
 
@@ -99,8 +98,7 @@ public final class GraphTest {
         CHECK.same("by one route", line.hops(1, 3), 1);
         line.put(0, 6);
         CHECK.same("trains do not matter", line.hops(1, 3), 1);
-        RouteInterlocking all = Yards.with(
-            new int[] {1, 2, 3, 4, 5, 6, 7, 8, 9, 10, 11, 12, 13, 14, 15, 16, 17, 18}, 1, 3, 5, 7, 9, 11, 13, 15, 17);
+        RouteInterlocking all = Yards.with(Yards.lineOf(9), 1, 3, 5, 7, 9, 11, 13, 15, 17);
         CHECK.same("nine routes", all.hops(1, 9), 9);
         CHECK.same("eight routes", all.hops(3, 9), 8);
     }

@@ -214,10 +214,8 @@ public final class LayoutTest {
         }
     }
 
-    /** Four layers of two sections, each joined to both of the next layer: 2 * 2 * 2 ways from each of the first two. */
     private static void onlySixteenRoutesCount() {
-        int[] mesh = {1, 4, 1, 6, 3, 4, 3, 6, 5, 8, 5, 10, 7, 8, 7, 10, 9, 12, 9, 14, 11, 12, 11, 14};
-        RouteInterlocking x = Yards.with(mesh, 1, 3);
+        RouteInterlocking x = Yards.with(Yards.mesh(), 1, 3);
         CHECK.same("eight from each", x.routes(), 16);
         CHECK.same("the last one's list", x.via(15, 0) * 10000 + x.via(15, 1) * 100 + x.via(15, 2), 3 * 10000 + 7 * 100 + 11);
         x.signal(12, true);

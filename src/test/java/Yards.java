@@ -23,6 +23,15 @@ final class Yards {
         return with(new int[] {1, 2, 3, 4, 5, 6}, 1);
     }
 
+    /** Sections 0 to n in a line, joined by joints 0 to n - 1, joint i from end 2 i + 1 to end 2 i + 2. */
+    static int[] lineOf(int n) {
+        int[] joints = new int[2 * n];
+        for (int i = 0; i < 2 * n; i++) {
+            joints[i] = i + 1;
+        }
+        return joints;
+    }
+
     /** Sections 0 to 3 in a line with a signal at every inner end that looks onwards: routes 0, 1 and 2 of a joint each. */
     static RouteInterlocking chain() {
         return with(new int[] {1, 2, 3, 4, 5, 6}, 1, 3, 5);
@@ -53,5 +62,24 @@ final class Yards {
     /** Five pairs of sections, each pair joined by one joint, with signals at both ends of it: 10 routes of a joint each. */
     static RouteInterlocking pairs() {
         return with(new int[] {1, 2, 5, 6, 9, 10, 13, 14, 17, 18}, 1, 2, 5, 6, 9, 10, 13, 14, 17, 18);
+    }
+
+    /** Four layers of two sections, each joined to both of the next layer by 12 joints: 2 * 2 * 2 ways from end 1, as many from end 3. */
+    static int[] mesh() {
+        return new int[] {1, 4, 1, 6, 3, 4, 3, 6, 5, 8, 5, 10, 7, 8, 7, 10, 9, 12, 9, 14, 11, 12, 11, 14};
+    }
+
+    /**
+     * Ten sections in a ring, joint i from end 2 i + 1 to the next section, joint 9 from end 19 to end 0, and signals
+     * at ends 0 to signals - 1. Each signal begins one route (at 12 signals or more, else some are too long).
+     */
+    static RouteInterlocking ring(int signals) {
+        RouteInterlocking x = with(new int[] {1, 2, 3, 4, 5, 6, 7, 8, 9, 10, 11, 12, 13, 14, 15, 16, 17, 18, 19, 0});
+        for (int end = 0; end < signals; end++) {
+            if (!x.signal(end, true)) {
+                throw new IllegalStateException("signal " + end);
+            }
+        }
+        return x;
     }
 }
