@@ -112,7 +112,6 @@ public final class RouteInterlocking {
             return false;
         }
         routeIsSet[r] = true;
-        cancelWait[r] = 0;
         for (int i = 0; i < routeLength[r]; i++) {
             int step = r * MAX_STEPS + i;
             int joint = stepJoint[step];
@@ -174,7 +173,7 @@ public final class RouteInterlocking {
         if (!isTrain(t)) {
             return BAD;
         }
-        if (heading[t] == NONE || trainRoute[t] == NONE) {
+        if (trainRoute[t] == NONE) {
             return heading[t];
         }
         return heading[t] + 100 * (trainRoute[t] + 1);
@@ -460,9 +459,9 @@ public final class RouteInterlocking {
         }
     }
 
+    // A route comes here with no tick left to wait: one that waits is neither cancelled again nor taken by a train.
     private void releaseRoute(int r) {
         routeIsSet[r] = false;
-        cancelWait[r] = 0;
         for (int i = 0; i < routeLength[r]; i++) {
             releaseStep(r, i);
         }

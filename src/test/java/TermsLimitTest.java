@@ -23,6 +23,7 @@ public final class TermsLimitTest {
         routesAreNumberedFromZero();
         fifteenSixteenSeventeen();
         sixteenthMayStandInTheMidstOfASignal();
+        sixteenthMayHaveFiveJoints();
         routesBeyondTheSixteenthDoNothing();
         threeTrains();
         lockedAreTheSectionsEntered();
@@ -34,6 +35,7 @@ public final class TermsLimitTest {
         movesThroughARouteOfOneJoint();
         movesThroughARouteOfFiveJoints();
         needsGoWithTheSectionTheyLedTo();
+        needsOfTheNextRouteStay();
         CHECK.end();
     }
 
@@ -191,8 +193,13 @@ public final class TermsLimitTest {
         CHECK.under("It is a ROUTE iff all sections entered differ from each other");
         CHECK.same("back by the end by which it came in", Yards.with(new int[] {1, 2, 3, 4, 5, 6, 7, 2}, 1).routes(), 0);
         CHECK.same("back by the other end", Yards.with(new int[] {1, 2, 3, 4, 5, 6, 7, 3}, 1).routes(), 0);
-        CHECK.same("back by the fifth joint, to a signal behind it",
-            Yards.with(new int[] {1, 2, 3, 4, 5, 6, 7, 8, 9, 3}, 1).routes(), 0);
+        // These come back to a section where the other end has a signal, so that nothing else forbids them.
+        RouteInterlocking fourth = Yards.with(new int[] {1, 2, 3, 4, 5, 6, 7, 3}, 1, 2);
+        CHECK.same("back to a signal by the fourth joint", fourth.routes(), 1);
+        CHECK.same("the one there is comes from that signal", fourth.hops(2, 0), 1);
+        RouteInterlocking fifth = Yards.with(new int[] {1, 2, 3, 4, 5, 6, 7, 8, 9, 3}, 1, 2);
+        CHECK.same("back to a signal by the fifth joint", fifth.routes(), 1);
+        CHECK.same("the one there is comes from that signal", fifth.hops(2, 0), 1);
         RouteInterlocking kept = Yards.with(new int[] {1, 2, 3, 4, 5, 6, 7, 2, 5, 10}, 1);
         CHECK.same("the way that leaves the loop", kept.routes(), 1);
         CHECK.same("by this joint", kept.via(0, 2), 4);
@@ -202,6 +209,7 @@ public final class TermsLimitTest {
         CHECK.under("... and from the section of the signal");
         CHECK.same("by the signal's end", Yards.with(new int[] {1, 2, 3, 1}, 1).routes(), 0);
         CHECK.same("by the other end", Yards.with(new int[] {1, 2, 3, 0}, 1).routes(), 0);
+        CHECK.same("to another signal of that section", Yards.with(new int[] {1, 2, 3, 1}, 1, 0).routes(), 0);
         CHECK.same("to the signal itself, by the fifth joint",
             Yards.with(new int[] {1, 2, 3, 4, 5, 6, 7, 8, 9, 0}, 1).routes(), 0);
         CHECK.same("one section before is a route", Yards.with(new int[] {1, 2, 3, 4, 5, 6, 7, 8, 9, 0}, 1, 9).routes(), 2);
@@ -291,6 +299,29 @@ public final class TermsLimitTest {
         x.signal(3, false);
         CHECK.same("without end 3 all count", x.routes(), 12);
         CHECK.same("also the last one", x.via(11, 0) * 100 + x.via(11, 1) * 10 + x.via(11, 2), 952);
+    }
+
+    /** A ring with a signal at each even end, and at 9 and the odd ends above: the last route goes from 19 to 9. */
+    private static void sixteenthMayHaveFiveJoints() {
+        CHECK.under("a list of 1 to 5 joints; Only the first 16 count (five joints in the sixteenth)");
+        RouteInterlocking x = Yards.ring(0);
+        for (int a = 0; a < 20; a++) {
+            if (a % 2 == 0 || a >= 9) {
+                x.signal(a, true);
+            }
+        }
+        CHECK.same("routes()", x.routes(), 16);
+        for (int i = 0; i <= 5; i++) {
+            CHECK.same("via(15, " + i + ")", x.via(15, i), i == 0 ? 9 : i < 5 ? i - 1 : NONE);
+        }
+        x.put(0, 19);
+        CHECK.yes("set(15)", x.set(15));
+        for (int s = 0; s < 10; s++) {
+            CHECK.same("lock(" + s + ")", x.lock(s), s < 5 ? 15 : NONE);
+        }
+        CHECK.same("five moves", x.tick(20), 5);
+        CHECK.same("it has come to the signal at 9", x.train(0), 9);
+        CHECK.same("lock(4)", x.lock(4), NONE);
     }
 
     private static int[] cutMesh() {
@@ -499,5 +530,24 @@ public final class TermsLimitTest {
         x.tick(1);
         CHECK.same("it left section 1", x.blocked(1), 0);
         CHECK.same("the route is still set", x.blocked(0), 1);
+    }
+
+    /** Route 0 has all five joints; route 1, which comes next, needs a point by its first one, and route 2 needs it otherwise. */
+    private static void needsOfTheNextRouteStay() {
+        CHECK.under("it is not set any more, and all its locks and needs are released (no others)");
+        int[] joints = {1, 2, 3, 4, 5, 6, 7, 8, 9, 10, 13, 14, 13, 16};
+        RouteInterlocking cancelled = Yards.with(joints, 1, 13);
+        cancelled.set(0);
+        cancelled.set(1);
+        cancelled.cancel(0);
+        CHECK.same("route 0 is cancelled", cancelled.blocked(2), 4);
+        CHECK.same("route 0 is cancelled", cancelled.lock(7), 1);
+        RouteInterlocking passed = Yards.with(joints, 1, 13);
+        passed.set(0);
+        passed.set(1);
+        passed.put(0, 1);
+        CHECK.same("a train has come to its last section", passed.tick(20), 5);
+        CHECK.same("a train has come to its last section", passed.blocked(2), 4);
+        CHECK.same("a train has come to its last section", passed.lock(7), 1);
     }
 }

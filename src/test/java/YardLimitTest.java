@@ -17,7 +17,9 @@ public final class YardLimitTest {
         jointWithASetRoute();
         jointWithARouteBeingCancelled();
         jointElseTrue();
+        jointAfterTheSignals();
         jointPutsAllPointsToZero();
+        jointPutsAnyPointToZero();
         signalOutside();
         signalThatIsSoAlready();
         signalWithATrain();
@@ -196,7 +198,20 @@ public final class YardLimitTest {
         }
     }
 
-    /** Eight points of the mesh less one joint, those of its route that takes the second joint everywhere at 1. */
+    private static void jointAfterTheSignals() {
+        CHECK.under("Promise 2: Joins two ends (whether signals are there before or come later)");
+        RouteInterlocking x = Yards.with(new int[] {}, 1);
+        for (int n = 1; n <= 6; n++) {
+            CHECK.yes("joint " + (n - 1), x.joint(2 * n - 1, 2 * n));
+            CHECK.same("the route of " + n, x.routes(), n <= 5 ? 1 : 0);
+            CHECK.same("has this joint", x.via(0, n - 1), n <= 5 ? n - 1 : BAD);
+        }
+        CHECK.yes("a branch at the signal", x.joint(18, 1));
+        CHECK.same("a route again", x.routes(), 1);
+        CHECK.same("by the branch", x.via(0, 0), 6);
+    }
+
+    /** Points of the mesh less one joint, those of its route that takes the second joint everywhere at 1. */
     private static void jointPutsAllPointsToZero() {
         CHECK.under("Promise 2: all points have the position 0 then");
         RouteInterlocking x = Yards.with(new int[] {1, 4, 1, 6, 3, 4, 3, 6, 5, 8, 5, 10, 7, 8, 7, 10, 9, 12, 9, 14, 11, 12}, 1, 3);
@@ -216,6 +231,18 @@ public final class YardLimitTest {
         int[] points = {1, 3, 4, 6, 5, 7, 8, 10, 9, 11, 12, 14};
         for (int a : points) {
             CHECK.same("position(" + a + ") after a joint", x.position(a), 0);
+        }
+    }
+
+    private static void jointPutsAnyPointToZero() {
+        CHECK.under("Promise 2: all points have the position 0 then (each end)");
+        for (int a = 0; a < 20; a++) {
+            RouteInterlocking x = Yards.with(new int[] {a, (a + 2) % 20, a, (a + 4) % 20}, a);
+            x.set(1);
+            x.cancel(1);
+            CHECK.same("position(" + a + ") before", x.position(a), 1);
+            CHECK.yes("a joint elsewhere", x.joint((a + 6) % 20, (a + 8) % 20));
+            CHECK.same("position(" + a + ") after", x.position(a), 0);
         }
     }
 
